@@ -739,7 +739,7 @@ public final class HedgeWants {
                 return;
             }
             start = rowEnd(end, BLANK);
-            if (start >= length || start >= text.length) {
+            if (start < 0 || start >= length || start >= text.length) {
                 start = length;
                 end = length;
                 kind = END;

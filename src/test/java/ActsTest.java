@@ -6,6 +6,7 @@ public final class ActsTest {
         days();
         dayInItsRow();
         runningDown();
+        restingWorld();
         asking();
         spoilingAndMending();
         giving();
@@ -76,6 +77,43 @@ public final class ActsTest {
         z = Due.of("person 0;person 0;thing 0 3 9;runs worth - 7;");
         z.days(1);
         DUE.is("WORTH to its OWNER then", z.thing(0, 1), 2);
+    }
+
+    /** Behind DAYS that change nothing each ACT has to wake them. */
+    private static void restingWorld() {
+        HedgeWants x = Due.of("person 0;person 0;person 0;hedge 1 2;thing 0 0 6 0;thing 1 0 0 4;");
+        x.days(3);
+        DUE.is("all rests", x.later(60, 0), 0);
+        x.hedge(0, 1, true);
+        DUE.is("a HEDGE wakes it", x.then(0, 1, 0), 1);
+        x.days(1);
+        DUE.is("TAKEN over it", x.thing(0, 0), 1);
+        x.days(2);
+        x.taste(2, 1, 9);
+        x.days(1);
+        DUE.is("a taste wakes it", x.thing(1, 0), 2);
+        x.days(2);
+        x.give(0, 0);
+        x.days(1);
+        DUE.is("a gift wakes it", x.thing(0, 0), 1);
+        x.days(2);
+        x.give(0, 0);
+        x.spoil(0);
+        x.spoil(0);
+        x.days(2);
+        DUE.is("all rests again", x.thing(0, 0), 0);
+        x.mend(0);
+        x.days(1);
+        DUE.is("mending wakes it", x.thing(0, 0), 1);
+        x.days(2);
+        x.undo();
+        x.undo();
+        x.days(1);
+        DUE.is("undoing wakes it", x.thing(0, 0), 1);
+        x.days(2);
+        Due.read(x, "person 0;person 0;thing 0 0 6;");
+        x.days(1);
+        DUE.is("a text wakes it", x.thing(0, 0), 1);
     }
 
     private static void asking() {
@@ -171,6 +209,7 @@ public final class ActsTest {
         DUE.is("the last undo", x.undo(), 0);
         DUE.is("the DAY is back", x.count(2), 0);
         DUE.is("the OWNER is back", x.thing(0, 0), 0);
+        DUE.is("all WORTH is back", x.look(1, 0, 0), 7);
         DUE.is("RUN is back", x.count(10), 0);
         DUE.is("none to undo", x.undo(), -1);
         DUE.is("that is no ACT refused", x.count(15), 0);

@@ -43,6 +43,15 @@ public final class ChanceTest {
         // 1 gains 2 either way: 10 and 11 rest.
         DUE.is("two rest", two.game(0, 1, 0), 2);
         DUE.is("the first of two", two.game(0, 1, 1), 10);
+        DUE.is("two rest for the other one, too", two.game(1, 0, 0), 2);
+        DUE.is("the first of two for the other one", two.game(1, 0, 1), 1);
+        HedgeWants neither = Due.of("person 0;person 0;thing 0 0 9;thing 1 9 0;wants day = 0 and look;");
+        // Each gains 9 by taking, 2 by holding.
+        DUE.is("one rests where neither holds", neither.game(0, 1, 0), 1);
+        DUE.is("neither holds", neither.game(0, 1, 1), 0);
+        DUE.is("on the fourth DAY it goes back", Due.of(TURNS + "wants day = 0 or day = 3;").game(0, 1, 1), 11);
+        DUE.is("the fifth DAY is too late", Due.of(TURNS + "wants day = 0 or day = 4;").game(0, 1, 1), 10);
+        DUE.is("the sixth DAY is too late", Due.of(TURNS + "wants day = 0 or day = 5;").game(0, 1, 1), 10);
         DUE.lacks("game(2, 0, 0)", () -> two.game(2, 0, 0));
         DUE.lacks("game(0, 2, 0)", () -> two.game(0, 2, 0));
         DUE.lacks("game(0, 0, 2)", () -> two.game(0, 0, 2));
@@ -71,6 +80,15 @@ public final class ChanceTest {
         DUE.is("RUN now", x.years(27, 0, 2), 3);
         DUE.is("all stays", x.count(10), 3);
         DUE.is("the DAY stays", x.count(2), 0);
+        HedgeWants still = Due.of(STAYS + "wants 0;");
+        still.spoil(0);
+        still.spoil(0);
+        year(still, 5, 0, 1, 0);    // MENDED
+        year(still, 11, 0, 1, 2);   // nothing
+        HedgeWants given = Due.of("person 0;person 0;thing 0 5 4;");
+        year(given, 1, 1, 1, 0);    // a gift to 1, whom 0 TAKES it from
+        year(given, 11, 0, 1, 0);   // nothing: a DRAW of 3
+        year(given, 7, 0, 1, 0);    // nothing: a DRAW of 4
         HedgeWants bare = Due.of("person 0;person 0;");
         DUE.is("without THINGS", bare.years(-7, 60, 0), 0);
         DUE.is("all have nothing", bare.years(-7, 60, 1), 2);
@@ -118,6 +136,17 @@ public final class ChanceTest {
         DUE.is("again", x.restore(), true);
         DUE.is("ACTS again", x.undo(), 1);
         DUE.is("RUN again", x.thing(0, 1), 1);
+        x.restore();
+        x.undo();
+        x.undo();
+        x.give(0, 1);
+        x.spoil(0);
+        x.forget();
+        x.see(0, 0, 1);
+        x.restore();
+        DUE.is("what is SEEN again", x.tastes(2), 1);
+        x.undo();
+        DUE.is("ACTS of the image, not later ones", x.thing(0, 0), 0);
         x.image();
         x.days(1);
         x.restore();

@@ -51,6 +51,7 @@ public final class LaterTest {
         DUE.is("TAKEN at once", Due.of(STAYS).kept(0), 1);
         DUE.is("TAKEN on no DAY", Due.of("person 0;person 0;thing 0 5 4;").kept(0), -1);
         DUE.is("TAKEN on the 60th", Due.of(STAYS + "wants day = 59;").kept(0), 60);
+        DUE.is("TAKEN on the 59th", Due.of(STAYS + "wants day = 58;").kept(0), 59);
         DUE.is("not within 60", Due.of(STAYS + "wants day = 60;").kept(0), -1);
     }
 

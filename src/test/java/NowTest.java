@@ -160,5 +160,8 @@ public final class NowTest {
         DUE.is("no SWAP", x.count(6), -1);
         HedgeWants late = Due.of("person 0;person 0;" + "thing 0 9 9;".repeat(10) + "thing 0 1 2;thing 1 2 1;");
         DUE.is("the first SWAP", late.count(6), 1011);
+        DUE.is("one must gain, not be as well off", Due.of("person 0;person 0;thing 0 5 6;thing 1 5 5;").count(5), 0);
+        DUE.is("0 would swap all", Due.of("person 0;person 0;thing 1 5 0;").count(7), 0);
+        DUE.is("1 would swap all", Due.of("person 0;person 0;thing 0 0 5;").count(7), 0);
     }
 }

@@ -84,6 +84,12 @@ public final class SeenTest {
         // But one taste of 1 for the second one, 0, lets it stay; the first one must stay.
         DUE.is("the second THING", y.next(0), 1);
         DUE.is("of two OWNERS", y.next(1), 2);
+        String one = "person 0;person 0;thing 0 0 0;thing 0 0 9;runs 0;wants look and ";
+        DUE.is("behind 5 DAYS", Due.of(one + "day = 4;").next(1), 2);
+        DUE.is("not behind 6", Due.of(one + "day = 5;").next(1), 1);
+        HedgeWants z = Due.of(one + "day = 8;");
+        z.see(0, 6, 0);
+        DUE.is("behind 5 DAYS from now, not from what is SEEN", z.next(1), 1);
         DUE.is("without PEOPLE", new HedgeWants().next(0), -1);
         DUE.is("without THINGS", Due.of("person 0;").next(1), 0);
     }

@@ -40,6 +40,11 @@ public final class ShareTest {
         share("", 0);
         share("person 0;".repeat(8) + ("thing 0" + " 9".repeat(8) + ";").repeat(12), 72, 0, 1, 2, 3, 4, 5, 6, 7);
         share("person 0;person 0;person 0;thing 0 3 3 0;thing 0 3 3 0;thing 0 0 0 1;thing 0 3 3 0;", 7, 0, 1, 2);
+        HedgeWants less = Due.of("person 0;thing 0 3;thing 0 7;");
+        DUE.is("ONE EACH", less.each(-1), 7);
+        less.taste(0, 1, 0);
+        DUE.is("ONE EACH of less", less.each(-1), 3);
+        DUE.is("which one", less.each(0), 0);
         HedgeWants x = Due.of("person 0;thing 0 3;");
         DUE.lacks("each(1)", () -> x.each(1));
         DUE.lacks("each(-2)", () -> x.each(-2));
@@ -71,6 +76,9 @@ public final class ShareTest {
         DUE.is("three ways", y.away(0, 7), 22);
         DUE.is("far over two", y.far(0, 7), 2);
         DUE.is("PARTS with one alone", y.count(8), 2);
+        HedgeWants few = Due.of("person 0;".repeat(5) + "hedge 0 1;hedge 0 2;hedge 1 4;hedge 2 4;hedge 4 3;");
+        DUE.is("the fewest, not the least", few.away(0, 3), 16);
+        DUE.is("two of like many", few.away(0, 4), 6);
         HedgeWants line = Due.of("person 0;".repeat(8) + "hedge 0 1;hedge 1 2;hedge 2 3;hedge 3 4;hedge 4 5;hedge 5 6;hedge 6 7;");
         DUE.is("over seven", line.far(0, 7), 7);
         DUE.is("one PART", line.count(8), 1);
@@ -94,6 +102,15 @@ public final class ShareTest {
         HedgeWants two = Due.of("person 0;person 0;thing 0 1 3;thing 0 1 8;thing 0 1 8;wants own = 0 and theirs = 3;");
         DUE.is("of like ones the least", two.toAsk(1, 3), 1);
         DUE.is("what is TAKEN back", Due.of("person 0;person 0;thing 0 5 7;").toAsk(1, 1), -1);
+        // 2 sees but 0, and would TAKE it from 0. Asked for, it is RUN 0, so that 0 TAKES it back if it is worth 5.
+        String chain = "person 0;person 0;person 0;hedge 0 1;hedge 0 2;";
+        HedgeWants back = Due.of(chain + "thing 0 5 8 9;");
+        back.spoil(0);
+        back.spoil(0);
+        DUE.is("TAKEN back for it is RUN 0", back.toAsk(1, 1), -1);
+        HedgeWants safe = Due.of(chain + "thing 0 4 8 9;");
+        DUE.is("the first THING TO ASK", safe.toAsk(1, 1), 0);
+        DUE.is("asking again for it", safe.toAsk(1, 1), 0);
         DUE.lacks("toAsk(2, 1)", () -> x.toAsk(2, 1));
         DUE.lacks("toAsk(-1, 99)", () -> x.toAsk(-1, 99));
         DUE.bars("toAsk(0, 0)", () -> x.toAsk(0, 0));
@@ -109,6 +126,13 @@ public final class ShareTest {
         HedgeWants late = Due.of("person 0;person 2;person 1;thing 0 0 0 0;hedge 0 1;hedge 0 2;wants bold = 2 and day = 5 or bold = 1 and day = 3 or bold = 0 and day = 2;");
         // Of 0: taken on the fourth day by 2. Of 1: by 0 on the third. Of 2: by 0 on the third.
         DUE.is("sooner", late.toGive(0), 1);
+        DUE.is("sooner, asked again", late.toGive(0), 1);
+        HedgeWants first = Due.of("person 0;person 0;thing 1 3 9;");
+        DUE.is("TO GIVE to the first one", first.toGive(0), 0);
+        HedgeWants last = Due.of("person 0;person 0;thing 1 0 9;wants look and day = 59;");
+        DUE.is("TAKEN on the 60th", last.toGive(0), 0);
+        HedgeWants past = Due.of("person 0;person 0;thing 1 0 9;wants look and day = 60;");
+        DUE.is("not within 60", past.toGive(0), -1);
         HedgeWants never = Due.of("person 0;person 0;thing 0 0 0;");
         DUE.is("never", never.toGive(0), -1);
         DUE.lacks("toGive(2)", () -> x.toGive(2));

@@ -6,6 +6,7 @@ public final class TextTest {
         newObject();
         feeding();
         provinces();
+        readAgain();
         refusedCalls();
         lineFaults();
         personAndThingFaults();
@@ -64,6 +65,31 @@ public final class TextTest {
         DUE.is("seven hundred bytes", Due.read(x, "person 3;" + " ".repeat(691)), 0);
     }
 
+    /** Nothing of an earlier text is left in a later one. */
+    private static void readAgain() {
+        HedgeWants x = new HedgeWants();
+        for (int i = 0; i < 2; i++) {
+            Due.read(x, "person 9;person 8;person 7;hedge 2 0;firm 2 9 9 9;thing 1 9 9 9;wants 0;runs 3;");
+            DUE.is("whom 0 sees", x.person(0, 3), 4);
+            DUE.is("one HEDGE", x.count(9), 1);
+            x.days(2);
+        }
+        Due.read(x, "person 1;person 2;thing 0 0 6;");
+        DUE.is("PEOPLE", x.count(0), 2);
+        DUE.is("THINGS", x.count(1), 1);
+        DUE.is("not FIRM", x.thing(0, 4), 0);
+        DUE.is("not RUN", x.thing(0, 1), 0);
+        DUE.is("all see one another", x.person(0, 3), 2);
+        DUE.is("WANTED without a rule", x.person(1, 4), 1);
+        DUE.is("all that 1 has", x.person(1, 1), 0);
+        DUE.is("no other rule of RUNS", x.then(0, 1, 1), 0);
+        DUE.is("TAKEN", x.then(0, 1, 0), 1);
+        for (int i = 0; i < 120; i++) {
+            Due.read(x, "person 1;person 2;thing 0 0 6;wants 1;");
+        }
+        DUE.is("WANTED by the rule of the last one", x.thing(0, 2), 2);
+    }
+
     private static int readFirst(HedgeWants x, String text, int bytes) {
         Due.tape(x, text);
         return x.province(bytes);
@@ -88,6 +114,8 @@ public final class TextTest {
         DUE.fault("  7;", 1, 2);
         DUE.fault("\n;", 1, 1);
         DUE.fault("persons 1;", 1, 0);
+        DUE.fault("xerson 1;", 1, 0);
+        DUE.fault("perso 1;", 1, 0);
         DUE.fault("person 1;A", 1, 9);
         DUE.fault("person 1;\u00e9", 1, 9);
         DUE.fault("person 1;\t", 1, 9);
@@ -152,7 +180,10 @@ public final class TextTest {
         DUE.fault("wants 9999;", 0, -1);
         DUE.fault("wants 00001;", 2, 6);
         DUE.fault("wants foo;", 3, 6);
+        DUE.fault("wants zz;", 3, 6);
         DUE.fault("wants worth;", 3, 6);
+        DUE.fault("runs (((((1)))));", 0, -1);
+        DUE.fault("runs ((((((1", 2, 11);
         DUE.fault("wants wanted;", 3, 6);
         DUE.fault("runs look;", 3, 5);
         DUE.fault("runs own;", 3, 5);
@@ -219,6 +250,11 @@ public final class TextTest {
         gives("run + 2", 2);
         gives("day + 1", 1);
         gives("day", 0);
+        HedgeWants x = Due.of("person 0;thing 0 0;runs run + 1;");
+        DUE.is("RUN by RUN", x.then(0, 2, 1), 3);
+        x = Due.of("person 0;thing 0 0;runs day;");
+        DUE.is("RUN by the DAY", x.then(0, 2, 1), 1);
+        DUE.is("RUN by the DAY it is", x.then(0, 3, 1), 3);
     }
 
     private static void gives(String expr, int value) {
