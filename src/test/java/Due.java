@@ -3,6 +3,7 @@ import java.util.NoSuchElementException;
 /** What the tests share: objects made of a text, and answers compared with those that are due. */
 final class Due {
     private int wrong;
+    private String sentence = "";
 
     /** An object whose tape has the text; blanks fill its last twenty bytes. */
     static void tape(HedgeWants x, String text) {
@@ -33,10 +34,16 @@ final class Due {
         return x;
     }
 
+    /** What the document says of the calls that follow: a wrong answer is told with it. */
+    void sentence(String words) {
+        sentence = "\"" + words + "\": ";
+        is("the document says so", Document.says(words), true);
+    }
+
     void is(String call, long got, long want) {
         if (got != want) {
             wrong++;
-            System.out.println(call + " answered " + got + ", due is " + want);
+            System.out.println(sentence + call + " answered " + got + ", due is " + want);
         }
     }
 
