@@ -20,6 +20,7 @@ public final class EdgeActsTest {
         oneHalf();
         nineAtMost();
         oneDayMore();
+        daysBehindRest();
         daysAtOnce();
         lastDay();
         asks();
@@ -114,6 +115,11 @@ public final class EdgeActsTest {
 
     private static void takenAndRun() {
         DUE.sentence("it is TAKEN, and RUN 0.");
+        HedgeWants turns = Due.of(TWO + "thing 0 9 9;runs 0;");
+        for (int days = 1; days <= 60; days++) {
+            DUE.is("the OWNER behind " + days, turns.then(0, days, 0), days % 2);
+            DUE.is("TAKEN in " + days, turns.taken(0, days), days);
+        }
         HedgeWants x = Due.of(TWO + "thing 0 0 9;runs 0;");
         x.spoil(0);
         x.spoil(0);
@@ -183,6 +189,9 @@ public final class EdgeActsTest {
         }
         DUE.is("below 0", Due.of("person 0;firm 0 0;runs 0 - 3;").then(0, 1, 1), 0);
         DUE.is("without RUNS never", Due.of(TWO + "firm 0 9 9;").then(0, 60, 1), 0);
+        HedgeWants both = Due.of("person 0;thing 0 0;firm 0 0;runs 1;");
+        DUE.is("beside a FIRM one", both.then(0, 5, 1), 5);
+        DUE.is("a FIRM one beside it", both.then(1, 5, 1), 0);
         HedgeWants x = Due.of("person 0;firm 0 0;");
         DUE.is("by hand as others", x.spoil(0), 1);
         DUE.is("by hand again", x.spoil(0), 2);
@@ -216,6 +225,41 @@ public final class EdgeActsTest {
         DUE.is("days(1)", x.days(1), 1);
         DUE.is("count(2)", x.count(2), 1);
         DUE.is("WANTED now", x.thing(0, 2), 2);
+    }
+
+    /** DAYS that change nothing don't stop those behind an ACT. */
+    private static void daysBehindRest() {
+        DUE.sentence("DAYS go by (1 to 20)");
+        HedgeWants x = Due.of(TWO + "thing 0 4 4;hedge 0 1;");
+        x.days(20);
+        DUE.is("all rests", x.thing(0, 0), 0);
+        x.taste(1, 0, 7);
+        DUE.is("behind a taste", x.then(0, 1, 0), 1);
+        x.hedge(0, 1, false);
+        x.days(20);
+        DUE.is("all rests", x.thing(0, 0), 0);
+        x.hedge(0, 1, true);
+        DUE.is("behind a HEDGE", x.then(0, 1, 0), 1);
+        x.spoil(0);
+        x.spoil(0);
+        x.spoil(0);
+        x.days(20);
+        DUE.is("all rests", x.thing(0, 0), 0);
+        x.mend(0);
+        DUE.is("behind mending", x.then(0, 1, 0), 1);
+        x.undo();
+        x.days(1);
+        x.undo();
+        x.undo();
+        x.undo();
+        x.undo();
+        x.undo();
+        DUE.is("behind undoing", x.then(0, 1, 0), 1);
+        x.days(1);
+        x.days(20);
+        DUE.is("all rests", x.thing(0, 0), 1);
+        x.give(0, 0);
+        DUE.is("behind a gift, RUN 0", x.then(0, 1, 0), 1);
     }
 
     // ---- promise 9 ----
@@ -287,6 +331,7 @@ public final class EdgeActsTest {
         DUE.sentence("(not counted where DAYS are)");
         DUE.is("no DAY more", run.count(2), 0);
         DUE.is("not TAKEN", run.taken(0, 0) + run.later(0, 0), 0);
+        DUE.is("of the last one", Due.of(THREE + "thing 2 0 5 9;").ask(1, 0), 2);
         // One needn't be the one who would TAKE it.
         DUE.is("the lesser one of two", Due.of(THREE + "thing 0 0 5 9;").ask(1, 0), 0);
     }

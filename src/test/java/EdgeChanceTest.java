@@ -12,6 +12,7 @@ public final class EdgeChanceTest {
         nobodyWants();
         shyRefuses();
         tongues();
+        theOtherDays();
         fourDays();
         neitherGainsMore();
         wantedInAGame();
@@ -104,6 +105,15 @@ public final class EdgeChanceTest {
         DUE.is("without THINGS, how many", Due.of(TWO).game(0, 1, 0), 1);
         // On the next DAY alone: on the second one 1 takes it, be what may.
         DUE.is("the next DAY alone", Due.of(once + "9;wants look and day < 2;runs 0;").game(0, 1, 1), 11);
+    }
+
+    private static void theOtherDays() {
+        DUE.sentence("each HOLDS ONE'S TONGUE on the next DAY");
+        // 0 TAKES it on the first DAY or, holding, on the second one; 1, who isn't BOLD, never WANTS it back.
+        HedgeWants x = Due.of("person 1;person 0;thing 1 1 9;wants bold;runs 0;");
+        DUE.is("one rests", x.game(0, 1, 0), 1);
+        DUE.is("both hold", x.game(0, 1, 1), 11);
+        DUE.is("both hold, told the other way", x.game(1, 0, 1), 11);
     }
 
     private static void fourDays() {

@@ -13,6 +13,7 @@ public final class EdgeNowTest {
         countsOfNobody();
         countsOfAll();
         safeThings();
+        ofAPerson();
         whoWouldTake();
         looksToTheOwner();
         envy();
@@ -137,6 +138,25 @@ public final class EdgeNowTest {
         DUE.is("all twelve", Due.of(TWO + "thing 0 9 9;".repeat(12)).person(1, 4), 4095);
     }
 
+    private static void ofAPerson() {
+        DUE.sentence("Of a PERSON: 0 BOLD, 1 THINGS that one has (bits), 2 their WORTH to one, 3 whom one sees (bits)");
+        HedgeWants x = Due.of("person 0;person 9;" + "thing 1 1 9;".repeat(12));
+        DUE.is("BOLD 0", x.person(0, 0), 0);
+        DUE.is("BOLD 9", x.person(1, 0), 9);
+        DUE.is("no THINGS", x.person(0, 1), 0);
+        DUE.is("all THINGS", x.person(1, 1), 4095);
+        DUE.is("no WORTH", x.person(0, 2), 0);
+        DUE.is("most WORTH", x.person(1, 2), 108);
+        DUE.is("the last THING alone", Due.of(TWO + "thing 0 0 0;".repeat(11) + "thing 1 0 4;").person(1, 1), 2048);
+        for (int i = 0; i < 9; i++) {
+            x.spoil(0);
+        }
+        DUE.is("their WORTH, RUN or not", x.person(1, 2), 108);
+        DUE.is("whom one sees", x.person(0, 3), 2);
+        DUE.is("who sees nobody", Due.of("person 0;").person(0, 3), 0);
+        DUE.is("who sees all others", Due.of(EIGHT).person(7, 3), 127);
+    }
+
     private static void whoWouldTake() {
         DUE.sentence("who would TAKE it (none).");
         DUE.is("nobody", Due.of(TWO + "thing 0 9 4;").thing(0, 3), -1);
@@ -249,6 +269,7 @@ public final class EdgeNowTest {
         DUE.sentence("each of PEOPLE is given one THING, no two one, as many as can be (be its WORTH 0), whoever has it");
         share("", 0);
         share(TWO, 0, -1, -1);
+        share(EIGHT, 0, -1, -1, -1, -1, -1, -1, -1, -1);
         share("person 0;thing 0 0;", 0, 0);
         share(TWO + "thing 0 9 0;thing 0 9 0;", 9, 0, 1);
         share(TWO + "thing 0 9 9;", 9, 0, -1);
@@ -263,6 +284,8 @@ public final class EdgeNowTest {
             run.spoil(0);
         }
         DUE.is("by WORTH, not by LOOK", run.each(-1), 9);
+        run.taste(0, 0, 2);
+        DUE.is("less than it was", run.each(-1), 2);
     }
 
     private static void share(String text, int worth, int... row) {

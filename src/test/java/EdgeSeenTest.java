@@ -160,6 +160,9 @@ public final class EdgeSeenTest {
         DUE.is("by its WORTH 0 to 1", seen(late, 0, 20, 0).tastes(1), 1000);
         DUE.is("behind 19", seen(late, 0, 19, 0).tastes(0), 18);
         DUE.is("behind 0, now", seen(late, 0, 0, 0).tastes(0), 18);
+        HedgeWants first = seen(TWO + "thing 1 0 7;", 0, 1, 1);
+        DUE.is("0 must not TAKE it", first.tastes(0), 13);
+        DUE.is("0 must not TAKE it, the first", first.tastes(1), 1);
         HedgeWants two = seen(late, 0, 20, 1);
         two.see(0, 5, 1);
         DUE.is("a lesser one told behind it", two.tastes(0), 0);
@@ -218,10 +221,13 @@ public final class EdgeSeenTest {
         DUE.is("on the sixth DAY", Due.of(one + "5;").next(1), 1);
         HedgeWants x = seen(one + "5;", 0, 20, 1);
         DUE.is("what is SEEN behind 20 DAYS doesn't lengthen it", x.next(1), 1);
-        x.days(1);
-        DUE.is("from now on", x.next(1), 1);
-        x.forget();
-        DUE.is("by all TASTES", x.next(1), 2);
+        HedgeWants six = seen(one + "8;", 0, 6, 0);
+        DUE.is("nor behind 6", six.next(1), 1);
+        HedgeWants now = Due.of(one + "5;");
+        now.days(1);
+        DUE.is("from now on", now.next(1), 2);
+        HedgeWants first = Due.of(TWO + "thing 1 0 0;runs 0;wants look;");
+        DUE.is("0 TAKES it", first.next(1), 2);
     }
 
     private static void anotherWhat() {

@@ -2,6 +2,7 @@
 public final class EdgeTextTest {
     private static final Due DUE = new Due();
     private static final String TWO = "person 0;person 0;";
+    private static final String THREE = "person 0;person 0;person 0;";
     private static final String EIGHT = "person 0;".repeat(8);
 
     public static void main(String[] args) {
@@ -10,6 +11,7 @@ public final class EdgeTextTest {
         firstBytes();
         notSoManyBytes();
         allAnew();
+        anewAgainAndAgain();
         allElseStays();
         placeOfTheFault();
         everyByteAheadOfALine();
@@ -93,6 +95,20 @@ public final class EdgeTextTest {
         DUE.is("province(19) with a FAULT", x.province(19), 1);
         DUE.is("the tape", x.count(13), 0);
         DUE.is("province(0) of an empty one", x.province(0), 0);
+
+        // A TOKEN that is cut ends there, whatever stands behind it, now or of an earlier text.
+        firstBytesOf(x, "runs 12345;", 6, 1, 6);
+        firstBytesOf(x, "runs day;", 6, 3, 5);
+        firstBytesOf(x, "runs days;", 8, 1, 8);
+        firstBytesOf(x, "persons", 6, 1, 6);
+        firstBytesOf(x, "person 3;      person 4;", 12, 0, -1);
+        firstBytesOf(x, "person 3;", 1, 1, 0);
+    }
+
+    private static void firstBytesOf(HedgeWants x, String text, int bytes, int code, int place) {
+        Due.tape(x, text);
+        DUE.is("province(" + bytes + ") of " + text, x.province(bytes), code);
+        DUE.is("fault() of it", x.fault(), place);
     }
 
     private static void notSoManyBytes() {
@@ -145,6 +161,39 @@ public final class EdgeTextTest {
         DUE.is("undo()", x.undo(), -1);
         DUE.is("SEEN", x.count(12), 0);
         DUE.is("restore()", x.restore(), false);
+    }
+
+    /** Nothing of an earlier text is in a later one, how many there may have been. */
+    private static void anewAgainAndAgain() {
+        DUE.sentence("are a PROVINCE, all anew");
+        HedgeWants x = new HedgeWants();
+        for (int i = 0; i < 4; i++) {
+            DUE.is("province", Due.read(x, THREE + "firm 2 9 9 0;firm 2 9 9 0;hedge 2 1;wants 0 - 1;runs 2;"), 0);
+            DUE.is("whom 2 sees", x.person(2, 3), 2);
+            DUE.is("both are FIRM", x.thing(0, 4) + x.thing(1, 4), 2);
+            DUE.is("SAFE", x.count(3), 3);
+            DUE.is("RUN", x.then(1, 1, 1), 1);
+            x.days(2);
+            DUE.is("province", Due.read(x, TWO + "thing 1 6 0;"), 0);
+            DUE.is("PEOPLE", x.count(0), 2);
+            DUE.is("THINGS", x.count(1), 1);
+            DUE.is("not FIRM", x.thing(0, 4), 0);
+            DUE.is("without a HEDGE told", x.person(0, 3), 2);
+            DUE.is("without WANTS", x.thing(0, 2), 1);
+            DUE.is("RUN at first", x.thing(0, 1), 0);
+            x.days(3);
+            DUE.is("TAKEN", x.thing(0, 0), 0);
+            DUE.is("all rests without RUNS", x.thing(0, 1), 0);
+            DUE.is("province", Due.read(x, "person 1;person 2;thing 0 0 6;hedge 0 1;"), 0);
+            DUE.is("BOLD", x.person(1, 0), 2);
+            DUE.is("TAKEN behind rest", x.then(0, 1, 0), 1);
+            DUE.is("a FAULT", Due.read(x, EIGHT + "firm 7 1 1 1 1 1 1 1 1;hedge 0 1;hedge 0 2;wants 1;runs 1;?"), 1);
+        }
+        for (int i = 0; i < 100; i++) {
+            DUE.is("province", Due.read(x, TWO + "thing 0 0 0;wants 1 - 0 * 5 * 5 * 5;runs 2 + " + i % 2 + ";"), 0);
+            DUE.is("WANTED", x.thing(0, 2), 2);
+            DUE.is("RUN", x.then(0, 1, 1), 2 + i % 2);
+        }
     }
 
     private static void allElseStays() {
@@ -308,8 +357,10 @@ public final class EdgeTextTest {
         DUE.sentence("THINGS 0, 1 .. (at most 12): an OWNER, a WORTH to each of PEOPLE (0 to 9)");
         String twelve = "person 0;" + "thing 0 1;firm 0 1;".repeat(6);
         DUE.is("twelve", Due.of(twelve).count(1), 12);
-        DUE.is("the last one is FIRM", Due.of(twelve).thing(11, 4), 1);
-        DUE.is("the last one but one isn't", Due.of(twelve).thing(10, 4), 0);
+        HedgeWants all = Due.of(twelve);
+        for (int thing = 0; thing < 12; thing++) {
+            DUE.is("FIRM", all.thing(thing, 4), thing % 2);
+        }
         for (int worth = 0; worth <= 9; worth++) {
             DUE.is("WORTH", Due.of("person 0;thing 0 " + worth + ";").look(0, 0, 0), worth);
         }
@@ -326,9 +377,9 @@ public final class EdgeTextTest {
         DUE.fault(twelve + "things", 1, length);
 
         DUE.sentence("just as many WORTHS as PEOPLE are told ahead.");
-        HedgeWants all = Due.of(EIGHT + "thing 7 1 2 3 4 5 6 7 8;");
+        HedgeWants many = Due.of(EIGHT + "thing 7 1 2 3 4 5 6 7 8;");
         for (int person = 0; person < 8; person++) {
-            DUE.is("WORTH to " + person, all.look(person, 0, 0), person + 1);
+            DUE.is("WORTH to " + person, many.look(person, 0, 0), person + 1);
         }
 
         DUE.sentence("a WORTH too many, or ';' too soon");
