@@ -192,6 +192,7 @@ public final class EdgeActsTest {
         HedgeWants both = Due.of("person 0;thing 0 0;firm 0 0;runs 1;");
         DUE.is("beside a FIRM one", both.then(0, 5, 1), 5);
         DUE.is("a FIRM one beside it", both.then(1, 5, 1), 0);
+        DUE.sentence("FIRM ones are RUN down but half as fast.");
         HedgeWants x = Due.of("person 0;firm 0 0;");
         DUE.is("by hand as others", x.spoil(0), 1);
         DUE.is("by hand again", x.spoil(0), 2);

@@ -73,6 +73,13 @@ public final class EdgeChanceTest {
         DUE.is("not RUN on a shy DAY", y.shy(0, 2, 5), 25);
         HedgeWants none = Due.of(TURNS + "wants 1;");
         DUE.is("whatever WANTS gives", none.shy(0, 1, 10), 10);
+        DUE.is("but on it: how many WANT it now", none.then(0, 0, 2), 1);
+        DUE.is("but on it: TO SPOIL", Due.of(TURNS).thing(0, 5), 5);
+        HedgeWants spoilt = Due.of(TURNS);
+        spoilt.shy(0, 1, 10);
+        DUE.is("TO SPOIL behind asking for it", spoilt.thing(0, 5), 5);
+        spoilt.game(0, 1, 0);
+        DUE.is("TO SPOIL behind a GAME", spoilt.thing(0, 5), 5);
     }
 
     private static void shyRefuses() {
@@ -215,6 +222,18 @@ public final class EdgeChanceTest {
                 }
             }
         }
+        DUE.sentence("0 WORTH of a DRAW of THINGS to a DRAW of PEOPLE is a DRAW of 10 (drawn in this row); 1 a DRAW of THINGS is MENDED; 2 a DRAW of THINGS is GIVEN to a DRAW of PEOPLE (nothing, if it has it)");
+        for (int seed = -100; seed < 100; seed++) {
+            new EdgeChanceTest().byHand(texts[3] + "wants look - run = 1;", seed, 1);
+            new EdgeChanceTest().byHand(texts[3], seed, 2);
+        }
+        DUE.sentence("how often any THING is TAKEN in these DAYS; how many have nothing at the end; how RUN down all are then, together.");
+        HedgeWants now = Due.of(STAYS);
+        now.days(1);
+        now.spoil(0);
+        DUE.is("TAKEN in no DAYS", now.years(1, 0, 0), 0);
+        DUE.is("who has nothing now", now.years(1, 0, 1), 1);
+        DUE.is("RUN now", now.years(1, 0, 2), 2);
     }
 
     private static void oneDraw() {

@@ -228,6 +228,8 @@ public final class EdgeSeenTest {
         DUE.is("from now on", now.next(1), 2);
         HedgeWants first = Due.of(TWO + "thing 1 0 0;runs 0;wants look;");
         DUE.is("0 TAKES it", first.next(1), 2);
+        HedgeWants nothing = Due.of("person 1;person 0;thing 1 5 5;runs 0;wants bold and look = 0;");
+        DUE.is("by the first of all TASTES alone", nothing.next(1), 2);
     }
 
     private static void anotherWhat() {

@@ -41,6 +41,8 @@ public final class EdgeTextTest {
     // ---- promises 1 to 4 ----
 
     private static void nobody() {
+        DUE.sentence("NONE = -1: There is none; nobody.");
+        DUE.is("NONE", HedgeWants.NONE, -1);
         DUE.sentence("Nobody, no THINGS.");
         HedgeWants x = new HedgeWants();
         DUE.is("count(0)", x.count(0), 0);
@@ -345,6 +347,12 @@ public final class EdgeTextTest {
         DUE.fault("person 9999;", 2, 7);
         DUE.fault("person -1;", 1, 7);
 
+        DUE.sentence("or (not in an EXPR) not as told");
+        DUE.fault("person 9;thing 0 9;wants 10;runs 9999;", 0, -1);
+        DUE.fault("person 9;thing 0 9;wants 10000;", 2, 25);
+        DUE.fault("person 9;thing 0 10;wants 10;", 2, 17);
+        DUE.fault("person 99;", 2, 7);
+
         DUE.sentence("the first TOKEN of the 9th PERSON");
         DUE.fault(EIGHT, 0, -1);
         DUE.fault(EIGHT + "person 0;", 2, 72);
@@ -406,6 +414,8 @@ public final class EdgeTextTest {
         DUE.fault(TWO + "hedge 1 0;person 0;", 0, -1);
         DUE.fault(EIGHT + "hedge 7 6;", 0, -1);
         DUE.fault(EIGHT + "hedge 8 6;", 3, 78);
+        DUE.fault(EIGHT + "hedge 6 8;", 3, 80);
+        DUE.fault("person 0;thing 9999 1;", 3, 15);
     }
 
     private static void outOfRow() {
@@ -506,6 +516,10 @@ public final class EdgeTextTest {
         DUE.fault("runs ((((((?", 1, 11);
         DUE.fault("runs (((((1))))) + (((((1)))));", 0, -1);
         DUE.fault("runs (((((1) + (1)))) + ((1)));", 0, -1);
+        String open = "0 or 1 and 0 < 0 + 1 * (";
+        gives(open.repeat(5) + "0 or 1 and 0 < 0 + 1 * 3" + ")".repeat(5), 1);
+        gives(open.repeat(5) + "0 or 1 and 0 < 0 + 1 * 0" + ")".repeat(5), 0);
+        gives("3 - (3 - (3 - (3 - (3 - (3 - 1)))))", 1);
         DUE.fault("runs not (not (not (not (not (not 1)))));", 0, -1);
         DUE.fault("runs not (not (not (not (not (not (1))))));", 2, 35);
     }
