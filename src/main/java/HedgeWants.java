@@ -673,7 +673,6 @@ public final class HedgeWants {
         private static final int SIGN = 3;
         private static final int BLANK = 4;
         private static final int STRAY = 5;
-        private static final String SIGNS = ";()+-*/<=";
 
         private static final int CANT_STAND = 1;
         private static final int TOO_MUCH = 2;
@@ -769,10 +768,23 @@ public final class HedgeWants {
             if (sign >= '0' && sign <= '9') {
                 return NUMBER;
             }
-            if (sign == ' ' || sign == '\n') {
-                return BLANK;
+            switch (sign) {
+                case ' ':
+                case '\n':
+                    return BLANK;
+                case ';':
+                case '(':
+                case ')':
+                case '+':
+                case '-':
+                case '*':
+                case '/':
+                case '<':
+                case '=':
+                    return SIGN;
+                default:
+                    return STRAY;
             }
-            return SIGNS.indexOf((char) sign) >= 0 ? SIGN : STRAY;
         }
 
         /** Of a NUMBER of too many digits the first ones. */
